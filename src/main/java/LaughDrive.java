@@ -385,7 +385,6 @@ public final class LaughDrive {
         }
     }
 
-    /** THE PAGE. */
     private static final class Page {
         final Row codes = new Row(MOST_LETTERS);
         int length;
@@ -417,7 +416,7 @@ public final class LaughDrive {
             return length;
         }
 
-        /** Whether THE PAGE is a MOOR; if so, it is that one then. */
+        /** Makes this the MOOR that THE PAGE tells; nothing is done, and false told, if that is none. */
         boolean readInto(Moor moor) {
             if (moor == null || faultPlace() < length || !reading.isWhole()) {
                 return false;
@@ -511,7 +510,7 @@ public final class LaughDrive {
         }
     }
 
-    /** THE MOOR with all that an IMAGE keeps of it; with no LAUGHS it is none. */
+    /** THE MOOR, or what an IMAGE keeps of it; with no LAUGHS it is none. */
     private static final class Moor {
         int pegs;
         int coverts;
@@ -537,17 +536,14 @@ public final class LaughDrive {
             drives = 0;
         }
 
+        /** Of one and the same MOOR, which has as many of all, and the same KINDS, at any time. */
         void takeFrom(Moor other) {
             if (other == null) {
                 return;
             }
-            pegs = other.pegs;
-            coverts = other.coverts;
-            laughs = other.laughs;
             reach.takeFrom(other.reach);
             bag.takeFrom(other.bag);
             feed.takeFrom(other.feed);
-            kind.takeFrom(other.kind);
             high.takeFrom(other.high);
             seen.takeFrom(other.seen);
             places = other.places;
@@ -575,7 +571,7 @@ public final class LaughDrive {
             return placeIn(places, laugh);
         }
 
-        /** As bits. */
+        /** The LAUGHS there, as bits. */
         int laughsIn(int somePlaces, int covert) {
             int bits = 0;
             for (int laugh = 0; laugh < laughs; laugh++) {
@@ -653,16 +649,6 @@ public final class LaughDrive {
             return had;
         }
 
-        int sportBy(int somePlaces, int covert, int wind) {
-            int up = laughsIn(somePlaces, covert);
-            int all = 0;
-            for (int peg = 0; up != 0 && peg < pegs; peg++) {
-                int had = hadAt(peg, reach.at(peg), up, covert, wind);
-                all += had == NONE ? 0 : heightFrom(had, covert);
-            }
-            return all;
-        }
-
         int placesAfter(int somePlaces, int covert, int wind) {
             int up = laughsIn(somePlaces, covert);
             int next = covert + 1 < coverts ? covert + 1 : 0;
@@ -679,17 +665,33 @@ public final class LaughDrive {
             return after;
         }
 
+        private boolean isHad(int laugh, int before, int after) {
+            return placeIn(before, laugh) != NONE && placeIn(after, laugh) == NONE;
+        }
+
+        /** SPORT by the DRIVE between: it alone takes LAUGHS out of COVERTS. */
+        int sportOf(int before, int after) {
+            int all = 0;
+            for (int laugh = 0; laugh < laughs; laugh++) {
+                if (isHad(laugh, before, after)) {
+                    all += heightFrom(laugh, placeIn(before, laugh));
+                }
+            }
+            return all;
+        }
+
         int driveNow(int covert, int wind) {
-            int up = laughsIn(places, covert);
+            int after = placesAfter(places, covert, wind);
             int number = 0;
-            for (int peg = 0; peg < pegs; peg++) {
-                if (hadAt(peg, reach.at(peg), up, covert, wind) != NONE) {
+            for (int laugh = 0; laugh < laughs; laugh++) {
+                if (isHad(laugh, places, after)) {
+                    int peg = pegFrom(laugh, covert, wind);
                     bag.set(peg, bag.at(peg) + 1);
                     number++;
                 }
             }
-            sport += sportBy(places, covert, wind);
-            places = placesAfter(places, covert, wind);
+            sport += sportOf(places, after);
+            places = after;
             drives++;
             return number;
         }
@@ -719,13 +721,13 @@ public final class LaughDrive {
         }
 
         private boolean isAsSeen(int laugh, int covert) {
+            boolean all = true;
             for (int entry = 0; entry < seen.count; entry++) {
-                boolean other = seen.laugh.at(entry) != laugh;
-                if (!other && pegFrom(laugh, covert, seen.wind.at(entry)) != seen.peg.at(entry)) {
-                    return false;
+                if (seen.laugh.at(entry) == laugh) {
+                    all &= pegFrom(laugh, covert, seen.wind.at(entry)) == seen.peg.at(entry);
                 }
             }
-            return true;
+            return all;
         }
 
         int hear(int laugh) {
@@ -763,7 +765,6 @@ public final class LaughDrive {
         }
     }
 
-    /** What is SEEN. */
     private static final class Seen {
         int count;
         final Row laugh = new Row(MOST_SEEN);
@@ -864,8 +865,9 @@ public final class LaughDrive {
             for (int turn = 0; turn < moor.coverts; turn++) {
                 worthOfRest(this, places, driven, wind, TOGETHER, turn);
                 int covert = chosen.at(turn);
-                orderSport += moor.sportBy(places, covert, wind);
-                places = moor.placesAfter(places, covert, wind);
+                int after = moor.placesAfter(places, covert, wind);
+                orderSport += moor.sportOf(places, after);
+                places = after;
                 driven |= 1 << covert;
             }
         }
@@ -891,7 +893,7 @@ public final class LaughDrive {
                 if ((driven >> covert & 1) == 0) {
                     int after = moor.placesAfter(places, covert, wind);
                     int rest = worthOfRest(plans, after, driven | 1 << covert, wind, share, turn + 1);
-                    int worth = moor.sportBy(places, covert, wind) + share * rest;
+                    int worth = moor.sportOf(places, after) + share * rest;
                     if (!any || worth > most) {
                         any = true;
                         most = worth;
@@ -921,12 +923,10 @@ public final class LaughDrive {
             for (int time = 0; time < times; time++) {
                 int covert = draw(moor.coverts);
                 int wind = draw(3) - 1;
-                sport += moor.sportBy(places, covert, wind);
-                places = moor.placesAfter(places, covert, wind);
-                int back = moor.leastInNone(places);
-                if (draw(4) == 0 && back != NONE) {
-                    places = withPlace(places, back, covert);
-                }
+                int after = moor.placesAfter(places, covert, wind);
+                sport += moor.sportOf(places, after);
+                int back = moor.leastInNone(after);
+                places = draw(4) == 0 && back != NONE ? withPlace(after, back, covert) : after;
             }
         }
 

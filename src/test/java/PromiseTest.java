@@ -252,6 +252,8 @@ public final class PromiseTest {
         y.see(0, 1, NONE);
         due("8: 2 and 3 are left", y.laugh(0, 5), 12);
         due("8: by 0 over 2 and none, by -1 over 1 and 2", y.laugh(0, 6), 0);
+        // A cock of two pegs: by -1 over 1 from covert 0, over none from the three others; by 0 and by 1 over none.
+        due("8: many are left", on("99;0000;k00,l00").laugh(0, 6), 0);
         // By any wind no two are alike.
         due("8: all told apart", on("9999;000;l00,l00").laugh(0, 6), 0);
     }
@@ -421,6 +423,8 @@ public final class PromiseTest {
     private static void promise16Stands() {
         // l flies 9 over peg 0, g 5 over peg 1.
         standsAre("159;00;l09,g02", 0, 0, 14, 2, 1, 0);
+        // The last peg, too, has one by the reach that it should have.
+        standsAre("59;00;l09,g02", 0, 0, 14, 1, 0);
         // By -1 g flies over peg 0, l over none.
         standsAre("159;00;l09,g02", 0, -1, 5, 1, 0, 2);
         standsAre("159;00;l09,g02", 1, 0, 0, 0, 1, 2);
@@ -430,6 +434,10 @@ public final class PromiseTest {
         standsAre("3640;00;l16,l13,g11", 1, 0, 10, 0, 1, 2, 3);
         // The same with peg 0 kept free for the least number that is as good.
         standsAre("0463;00;l16,l13,g11", 1, 0, 10, 0, 2, 1, 3);
+        LaughDrive y = on("999999;00;k03,l14");
+        y.stands(0, 0, 0);
+        Sheet.write(y, "99;00;l05,l14").moor();
+        due("16: nothing of a wider moor", y.stands(0, 0, 0), 5);
         LaughDrive x = on("99;00;l05,l14");
         due("16: covert 2", x.stands(2, 0, 0), UNKNOWN);
         due("16: covert -1", x.stands(-1, 0, 0), UNKNOWN);
@@ -474,6 +482,8 @@ public final class PromiseTest {
     private static void promise17Order() {
         // Each covert has one over its own peg: as they are.
         orderIs("999;000;l01,l12,l23", 0, 6, 0, 1, 2);
+        // The first by numbers, not the greatest last.
+        orderIs("99;00;l05,l13", 0, 8, 0, 1);
         // Both in covert 0 over peg 0: one is had there, the other one in covert 1, behind it.
         orderIs("99;00;l05,l04", 0, 9, 0, 1);
         // Covert 1 is the last: what is left of it flies in covert 0.
@@ -572,6 +582,9 @@ public final class PromiseTest {
         due("21: sport", x.seasons(1, 0, 0), 5);
         due("21: it came back", x.seasons(1, 0, 1), 2);
         due("21: the seed then", x.seasons(1, 0, 2), 654583775);
+        due("21: sport once more", x.seasons(1, 0, 0), 5);
+        LaughDrive other = on("99;00;l04,g02");
+        due("21: the one that is in none came back", other.seasons(1, 0, 1), 2);
         due("21: as they would be", x.count(6) + x.count(5) + x.count(4), 0);
         due("21: laughs stay", x.covert(0, 1), 3);
         due("21: a great seed", x.seasons(1, Integer.MAX_VALUE, 2), 646343466);
@@ -585,10 +598,20 @@ public final class PromiseTest {
         due("21: no moor, times 0", new LaughDrive().seasons(0, 1, 0), OUTSIDE);
         due("21: no moor, seed -1", new LaughDrive().seasons(1, -1, 0), OUTSIDE);
         due("21: no moor, what 3", new LaughDrive().seasons(1, 1, 3), OUTSIDE);
+        seasonsBringBackTheLeast();
         LaughDrive y = on("596;20;l03,l05,t19,g00,k10,c09");
         due("21: a long one", y.seasons(20, 77, 0), 32);
         due("21: a long one", y.seasons(20, 77, 1), 1);
         due("21: a long one", y.seasons(20, 77, 2), 387832273);
+    }
+
+    private static void seasonsBringBackTheLeast() {
+        // Of this SEED the DRAWS are covert 0, wind -1, 0 (one comes back), covert 0, wind -1, and not 0.
+        int seed = 99;
+        // First both are had, 5 and 9; then that of 5, which came back.
+        LaughDrive x = on("99;00;g02,k03");
+        due("21: sport of two", x.seasons(2, seed, 0), 19);
+        due("21: none is left", x.seasons(2, seed, 1), 0);
     }
 
     private static long seedAfter(int draws, long first) {
@@ -626,7 +649,6 @@ public final class PromiseTest {
         x.arm(1, 2);
         x.rear(2, 9);
         x.forget();
-        x.see(1, -1, 0);
         x.see(1, -1, 1);
         S.holds("23: it is another one", x.digest() != before);
         due("23: restore", x.restore(), 1);
@@ -667,6 +689,11 @@ public final class PromiseTest {
         for (int what = 0; what < then.length; what++) {
             due("24: count(" + what + ") then", x.count(what), then[what]);
         }
+        x.blank();
+        Sheet.write(x, "12;34;l00,l11").moor();
+        due("24: bags of a narrower moor", x.count(4), 0);
+        due("24: feed of a narrower moor", x.count(7), 7);
+        due("24: reach of a narrower moor", x.count(8), 3);
         due("24: count(13)", x.count(13), OUTSIDE);
         due("24: count(-1)", x.count(-1), OUTSIDE);
     }

@@ -2,13 +2,24 @@
 final class Sheet {
     private int wrong;
     private int asked;
+    private int sentences;
+    private int askedBefore;
+    private String sentence = "";
+
+    /** From here on it is this sentence of the document that is looked at; each must have an answer of its own. */
+    void sentence(String words) {
+        noteEmpty();
+        sentences++;
+        askedBefore = asked;
+        sentence = "\"" + words + "\": ";
+    }
 
     void due(String call, long got, long want) {
         asked++;
         if (got != want) {
             wrong++;
             if (wrong <= 20) {
-                System.out.println(call + " answered " + got + ", due is " + want);
+                System.out.println(sentence + call + " answered " + got + ", due is " + want);
             }
         }
     }
@@ -22,9 +33,18 @@ final class Sheet {
     }
 
     void close(String name) {
-        System.out.println(name + ": " + asked + " answers, " + wrong + " not as due");
+        noteEmpty();
+        System.out.println(name + ": " + (sentences == 0 ? "" : sentences + " sentences, ")
+            + asked + " answers, " + wrong + " not as due");
         if (wrong != 0) {
             System.exit(1);
+        }
+    }
+
+    private void noteEmpty() {
+        if (sentences > 0 && asked == askedBefore) {
+            wrong++;
+            System.out.println(sentence + "nothing was asked");
         }
     }
 

@@ -1,3 +1,4 @@
+import java.math.BigInteger;
 import java.util.function.ToIntFunction;
 
 /**
@@ -691,6 +692,9 @@ public final class CallBoundsTest {
     private static void promise25() {
         S.sentence("h is 1231, then for each of these numbers, in order, 31 times h, and it (as longs, wrapping)");
         due("with nothing", new LaughDrive().digest(), mix(1231, new long[13]));
+        BigInteger whole = BigInteger.valueOf(1231).multiply(BigInteger.valueOf(31).pow(13));
+        S.holds("that is more than a long holds", whole.bitLength() > 64);
+        due("with nothing, wrapped", new LaughDrive().digest(), whole.longValue());
         due("with a page", Sheet.write(new LaughDrive(), " ~").digest(), mix(1231, 32, 126, 0, 0, 0, 0, 0, 0, 0, 0, 0, 0, 2, 0, 0));
         S.sentence("with a MOOR for each WIND from -1 on what order() tells for 0 and 10 to 13, game() for 0 and 1");
         LaughDrive x = on("90;00;l05,c10");

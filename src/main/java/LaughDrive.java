@@ -26,10 +26,9 @@ public final class LaughDrive {
     private static final int LAUGH = 0, TITTER = 1, GUFFAW = 2, CHUCKLE = 3, COCK = 4;
 
     private final Page page = new Page();
-    private final Moor now = new Moor();
+    private final Plans plans = new Plans();
+    private final Moor now = plans.moor;
     private final Moor kept = new Moor();
-    private final Plans plans = new Plans(now);
-    private final Seasons years = new Seasons(now);
     private boolean imageKept;
     private int moorsRead;
     private int standsDone;
@@ -216,11 +215,11 @@ public final class LaughDrive {
         if (!now.isThere()) {
             return STATE;
         }
-        years.pass(times, seed);
+        plans.passSeasons(times, seed);
         switch (what) {
-            case 0: return years.sport;
-            case 1: return now.inCoverts(years.places);
-            default: return (int) years.seed;
+            case 0: return plans.seasonsSport;
+            case 1: return now.inCoverts(plans.seasonsPlaces);
+            default: return (int) plans.seed;
         }
     }
 
@@ -281,7 +280,15 @@ public final class LaughDrive {
             }
         }
         for (int wind = LEAST_WIND; now.isThere() && wind <= MOST_WIND; wind++) {
-            h = withPlans(h, wind);
+            // As order() and game() tell it, but each is found once only.
+            plans.findOrder(wind);
+            h = 31 * h + plans.orderSport;
+            for (int turn = 0; turn < MOST_COVERTS; turn++) {
+                h = 31 * h + plans.orderCovert(turn);
+            }
+            plans.findGame(wind);
+            h = 31 * h + plans.gameLead + GAME_MORE;
+            h = 31 * h + plans.gameCovert;
         }
         for (int place = 0; place < page.length; place++) {
             h = 31 * h + page.codes.at(place);
@@ -290,18 +297,6 @@ public final class LaughDrive {
             h = 31 * h + count(what);
         }
         return h;
-    }
-
-    /** As order() and game() tell it, but each is found once only. */
-    private long withPlans(long before, int wind) {
-        plans.findOrder(wind);
-        long h = 31 * before + plans.orderSport;
-        for (int turn = 0; turn < MOST_COVERTS; turn++) {
-            h = 31 * h + plans.orderCovert(turn);
-        }
-        plans.findGame(wind);
-        h = 31 * h + plans.gameLead + GAME_MORE;
-        return 31 * h + plans.gameCovert;
     }
 
     private static boolean isWind(int wind) {
@@ -800,23 +795,24 @@ public final class LaughDrive {
         }
     }
 
-    /** STANDS, ORDER and GAME on THE MOOR as it is; each is found first, and told then. */
+    /** What would be on THE MOOR as it is: STANDS, ORDER, GAME, SEASONS; each is found first, and told then. */
     private static final class Plans {
         private static final int TOGETHER = 1, AGAINST = -1;
 
-        private final Moor moor;
+        /** It is made here, so that no constructor hands on a part of what it makes. */
+        final Moor moor = new Moor();
         int orderSport;
         int gameLead;
         int gameCovert;
+        int seasonsSport;
+        /** Where the LAUGHS are when SEASONS have passed. */
+        int seasonsPlaces;
+        long seed;
         /** By each turn the COVERT that was found best to be driven then. */
         private final Row chosen = new Row(MOST_COVERTS);
         /** By each set of REACHES (bits) at the first PEGS: what SPORT those behind add, which REACH is next. */
         private final Row worths = new Row(1 << MOST_PEGS);
         private final Row nexts = new Row(1 << MOST_PEGS);
-
-        Plans(Moor moor) {
-            this.moor = moor;
-        }
 
         void findStands(int covert, int wind) {
             int all = (1 << moor.pegs) - 1;
@@ -903,31 +899,23 @@ public final class LaughDrive {
             }
             return most;
         }
-    }
 
-    /** SEASONS on THE MOOR as it is, by a copy of where the LAUGHS are. */
-    private static final class Seasons {
-        private final Moor moor;
-        int sport;
-        int places;
-        long seed;
-
-        Seasons(Moor moor) {
-            this.moor = moor;
-        }
-
-        void pass(int times, int firstSeed) {
-            sport = 0;
-            places = moor.places;
+        void passSeasons(int times, int firstSeed) {
+            seasonsSport = 0;
+            seasonsPlaces = moor.places;
             seed = firstSeed;
             for (int time = 0; time < times; time++) {
-                int covert = draw(moor.coverts);
-                int wind = draw(3) - 1;
-                int after = moor.placesAfter(places, covert, wind);
-                sport += moor.sportOf(places, after);
-                int back = moor.leastInNone(after);
-                places = draw(4) == 0 && back != NONE ? withPlace(after, back, covert) : after;
+                passSeason();
             }
+        }
+
+        private void passSeason() {
+            int covert = draw(moor.coverts);
+            int wind = draw(3) - 1;
+            int after = moor.placesAfter(seasonsPlaces, covert, wind);
+            seasonsSport += moor.sportOf(seasonsPlaces, after);
+            int back = moor.leastInNone(after);
+            seasonsPlaces = draw(4) == 0 && back != NONE ? withPlace(after, back, covert) : after;
         }
 
         private int draw(int below) {

@@ -56,6 +56,10 @@ public final class RulesTest {
         for (Class<?> c : inside) {
             S.holds(c + " is private and static", Modifier.isPrivate(c.getModifiers()) && Modifier.isStatic(c.getModifiers()));
             look(c, face);
+            for (Constructor<?> made : c.getDeclaredConstructors()) {
+                S.holds(made + " is handed no part of what another one makes",
+                    Arrays.stream(made.getParameterTypes()).allMatch(type -> type == int.class));
+            }
         }
     }
 
